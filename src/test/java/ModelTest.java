@@ -3,7 +3,7 @@
  * follows the document word by word; every answer is compared.
  */
 public final class ModelTest {
-    private static final int OBJECTS = 600;
+    private static final int OBJECTS = 300;
     private static final int CALLS = 512;
     private static final int MOST_SHOWN = 20;
 
@@ -276,76 +276,83 @@ public final class ModelTest {
         }
     }
 
-    /** Every rule there is, alone, in every way: the lists for which it holds. */
-    private static void everyRule() {
+    /** An object in the state of the model: no object may get more calls than the document allows. */
+    private static QuantifiedGame like(Model m, int way) {
+        QuantifiedGame x = new QuantifiedGame();
+        due("way(" + way + ")", x.way(way) ? 1 : 0, 1);
+        for (int v = 0; v < 8; v++) {
+            due("give(" + v + ", " + m.side[v] + ")", x.give(v, m.side[v]) ? 1 : 0, 1);
+        }
+        for (int i = 0; i < m.number; i++) {
+            due("rule " + i, x.rule(m.rules[i][0], m.rules[i][1], m.rules[i][2]), i + 1);
+        }
+        return x;
+    }
+
+    /** Rules alone, all of kinds 1 to 3 and many of kind 0, in every way: all lists of values. */
+    private static void singleRules() {
         for (int kind = 0; kind < 4; kind++) {
             for (int p = 0; p < 256; p++) {
                 int step = kind == 0 ? 1 + p % 7 : 1;
                 for (int q = 0; q <= (kind == 0 ? 255 : kind == 1 ? 1 : kind == 2 ? 4 : 0); q += step) {
-                    Model m = new Model();
-                    QuantifiedGame x = new QuantifiedGame();
-                    String rule = "rule(" + kind + ", " + p + ", " + q + ")";
-                    int answer = m.rule(kind, p, q);
-                    due(rule, x.rule(kind, p, q), answer);
-                    if (answer == 1) {
-                        everyList(rule, x, m);
-                    }
+                    singleRule(kind, p, q);
                 }
             }
         }
     }
 
-    private static void everyList(String rule, QuantifiedGame x, Model m) {
-        for (int way = 0; way < 3; way++) {
-            x.way(way);
-            due(rule + ", way " + way + ": count()", x.count(), m.count());
-        }
-        for (int values = 0; values < 256; values++) {
-            x.way(values % 3);
-            due(rule + ", way " + values % 3 + ": holds(" + values + ")", x.holds(values) ? 1 : 0,
-                m.all(1, values) ? 1 : 0);
+    private static void singleRule(int kind, int p, int q) {
+        Model m = new Model();
+        int answer = m.rule(kind, p, q);
+        String rule = "rule(" + kind + ", " + p + ", " + q + ")";
+        due(rule, new QuantifiedGame().rule(kind, p, q), answer);
+        for (int way = 0; answer == 1 && way < 3; way++) {
+            QuantifiedGame x = like(m, way);
+            for (int values = 0; values < 256; values++) {
+                boolean held = x.holds(values);
+                if (held != Model.says(m.rules[0], values)) {
+                    due(rule + ", way " + way + ": holds(" + values + ")", held ? 1 : 0, held ? 0 : 1);
+                }
+            }
         }
     }
 
     /** Every division of the variables between the sides, in every way: every start. */
     private static void everyDivision() {
         for (int theirs = 0; theirs < 256; theirs++) {
-            QuantifiedGame x = new QuantifiedGame();
             Model m = new Model();
             for (int v = 0; v < 8; v++) {
                 m.side[v] = theirs >> v & 1;
-                x.give(v, m.side[v]);
             }
-            int[][] rules = {{0, next(256) | next(256), next(256)}, {1, next(16) << theirs % 5, 1},
-                {2, 31 << theirs % 4, 3}, {3, 3 << theirs % 7, 0}};
-            for (int[] r : rules) {
-                due("rule", x.rule(r[0], r[1], r[2]), m.rule(r[0], r[1], r[2]));
-            }
+            m.rule(0, next(256) | next(256), next(256));
+            m.rule(1, next(16) << theirs % 5, 1);
+            m.rule(2, 31 << theirs % 4, 3);
+            m.rule(3, 3 << theirs % 7, 0);
+            // Games that are won by us at first say more about the starts within them.
             while (m.number > 1 && !m.win(m.every(), 0, 0)) {
-                int last = next(m.number);
-                due("drop", x.drop(last), m.drop(last));
+                m.drop(next(m.number));
             }
-            everyStart("theirs " + theirs, x, m);
+            for (int way = 0; way < 3; way++) {
+                everyStart("theirs " + theirs + ", way " + way + ": ", m, way);
+            }
         }
     }
 
-    private static void everyStart(String at, QuantifiedGame x, Model m) {
+    private static void everyStart(String at, Model m, int way) {
         for (int k = 0; k <= 8; k++) {
+            QuantifiedGame x = like(m, way);
             for (int values = 0; values < 1 << k; values++) {
-                int won = m.won(k, values);
-                int move = m.move(k, values);
-                for (int way = 0; way < 3; way++) {
-                    x.way(way);
-                    String call = "(" + k + ", " + values + ")";
-                    due(at + ", way " + way + ": won" + call, x.won(k, values), won);
-                    due(at + ", way " + way + ": move" + call, x.move(k, values), move);
+                String start = "(" + k + ", " + values + ")";
+                due(at + "won" + start, x.won(k, values), m.won(k, values));
+                if (k < 8) {
+                    due(at + "move" + start, x.move(k, values), m.move(k, values));
                 }
             }
         }
     }
 
     public static void main(String[] args) {
-        everyRule();
+        singleRules();
         everyDivision();
         for (int object = 0; object < OBJECTS; object++) {
             longRun(object);

@@ -413,12 +413,12 @@ public final class PromisesTest {
         }
     }
 
+    /** The answers to 33 calls, few enough to be asked thirteen times of one object. */
     private static String answers(QuantifiedGame x) {
         StringBuilder all = new StringBuilder();
         for (int k = 0; k <= 8; k++) {
-            for (int values = 0; values < 1 << k; values++) {
-                all.append(x.won(k, values)).append(x.move(k, values)).append(x.holds(values)).append(' ');
-            }
+            int values = 0xA6 & (1 << k) - 1;
+            all.append(x.won(k, values)).append(x.move(k, values)).append(x.holds(values)).append(' ');
         }
         all.append(x.count()).append(' ').append(x.idle()).append(' ').append(x.openings()).append(' ');
         all.append(x.blame()).append(' ').append(x.decided()).append(' ').append(x.needless());
