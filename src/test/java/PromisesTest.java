@@ -1,44 +1,6 @@
-import java.util.function.IntFunction;
-
 /** For each promise of the document: ordinary inputs, the edges it names, and wrong inputs. */
-public final class PromisesTest {
-    private static final int BAD = -1;
-    private static final int FULL = -2;
-    private static final int NONE = -3;
-    private static final int[] FAR = {-1, Integer.MIN_VALUE, Integer.MAX_VALUE};
-
-    private static int wrong = 0;
-    private static int way = 2;
-
-    private static void due(String call, int got, int want) {
-        if (got != want) {
-            wrong++;
-            System.out.println("way " + way + ", " + call + " answered " + got + ", due is " + want);
-        }
-    }
-
-    private static void due(String call, boolean got, boolean want) {
-        due(call, got ? 1 : 0, want ? 1 : 0);
-    }
-
-    /** A game in the way under test whose variables in theirs belong to them. */
-    private static QuantifiedGame game(int theirs, int[]... rules) {
-        QuantifiedGame x = new QuantifiedGame();
-        due("way(" + way + ")", x.way(way), true);
-        for (int v = 0; v < 8; v++) {
-            if ((theirs >> v & 1) == 1) {
-                due("give(" + v + ", 1)", x.give(v, 1), true);
-            }
-        }
-        for (int i = 0; i < rules.length; i++) {
-            due("rule " + i, x.rule(rules[i][0], rules[i][1], rules[i][2]), i + 1);
-        }
-        return x;
-    }
-
-    private static int[] r(int kind, int p, int q) {
-        return new int[] {kind, p, q};
-    }
+public final class PromisesTest extends ByHand {
+    private static final int[] FAR = {-1, LEAST, GREATEST};
 
     private static void constants() {
         due("BAD", QuantifiedGame.BAD, BAD);
@@ -77,7 +39,7 @@ public final class PromisesTest {
             due("theirs " + v + ": won(0, 0)", x.won(0, 0), 0);
             due("give(" + v + ", 1) again", x.give(v, 1), true);
             due("theirs " + v + ": won(0, 0)", x.won(0, 0), 0);
-            for (int bad : new int[] {-1, 2, 3, Integer.MIN_VALUE, Integer.MAX_VALUE}) {
+            for (int bad : new int[] {-1, 2, 3, LEAST, GREATEST}) {
                 due("give(" + v + ", " + bad + ")", x.give(v, bad), false);
                 due("after a refused give: won(0, 0)", x.won(0, 0), 0);
             }
@@ -85,7 +47,7 @@ public final class PromisesTest {
             due("ours again " + v + ": won(0, 0)", x.won(0, 0), 1);
         }
         QuantifiedGame x = game(0, r(3, 255, 0));
-        for (int bad : new int[] {-8, -1, 8, 9, 16, 256, Integer.MIN_VALUE, Integer.MAX_VALUE}) {
+        for (int bad : new int[] {-8, -1, 8, 9, 16, 256, LEAST, GREATEST}) {
             due("give(" + bad + ", 1)", x.give(bad, 1), false);
             due("give(" + bad + ", 0)", x.give(bad, 0), false);
             due("give(" + bad + ", 2)", x.give(bad, 2), false);
@@ -97,7 +59,7 @@ public final class PromisesTest {
     private static void promise3Rule() {
         QuantifiedGame x = game(0);
         int[][] bad = {
-            r(-1, 0, 0), r(4, 0, 0), r(Integer.MIN_VALUE, 0, 0), r(Integer.MAX_VALUE, 0, 0),
+            r(-1, 0, 0), r(4, 0, 0), r(LEAST, 0, 0), r(GREATEST, 0, 0),
             r(0, -1, 0), r(0, 256, 0), r(0, 0, -1), r(0, 0, 256),
             r(1, -1, 0), r(1, 256, 0), r(1, 15, -1), r(1, 15, 2), r(1, 31, 0), r(1, 255, 1), r(1, 0xF8, 0),
             r(2, -1, 0), r(2, 256, 0), r(2, 31, -1), r(2, 31, 5), r(2, 63, 4), r(2, 255, 4), r(2, 0xFC, 0),
@@ -120,7 +82,7 @@ public final class PromisesTest {
 
         int[][] good = {
             r(0, 255, 255), r(0, 255, 0), r(0, 0, 255), r(1, 15, 0), r(1, 0xF0, 1), r(2, 31, 0),
-            r(2, 0xF8, 4), r(3, 255, 0), r(3, 255, -1), r(3, 0, Integer.MAX_VALUE), r(3, 129, Integer.MIN_VALUE),
+            r(2, 0xF8, 4), r(3, 255, 0), r(3, 255, -1), r(3, 0, GREATEST), r(3, 129, LEAST),
             r(2, 0, 0)};
         for (int i = 0; i < good.length; i++) {
             due("good rule " + i, x.rule(good[i][0], good[i][1], good[i][2]), i + 1);
@@ -171,14 +133,6 @@ public final class PromisesTest {
         }
     }
 
-    private static void sameHolds(int[] rule, IntFunction<Boolean> want) {
-        QuantifiedGame x = game(0, rule);
-        for (int values = 0; values < 256; values++) {
-            due("rule(" + rule[0] + ", " + rule[1] + ", " + rule[2] + "): holds(" + values + ")",
-                x.holds(values), want.apply(values));
-        }
-    }
-
     private static void promise5Holds() {
         sameHolds(r(0, 3, 4), n -> n % 8 != 4);
         sameHolds(r(0, 0x81, 0x42), n -> (n & 0x81) != 0 || (n & 0x42) != 0x42);
@@ -209,7 +163,7 @@ public final class PromisesTest {
         QuantifiedGame none = game(255);
         due("no rules: holds(0)", none.holds(0), true);
         due("no rules: holds(255)", none.holds(255), true);
-        for (int n : new int[] {-256, -1, 256, 257, 512, Integer.MIN_VALUE, Integer.MAX_VALUE}) {
+        for (int n : new int[] {-256, -1, 256, 257, 512, LEAST, GREATEST}) {
             due("no rules: holds(" + n + ")", none.holds(n), false);
         }
     }
@@ -247,7 +201,7 @@ public final class PromisesTest {
                 due("won(" + k + ", " + far + ")", none.won(k, far), BAD);
             }
         }
-        for (int k : new int[] {-1, 9, 31, 32, 40, Integer.MIN_VALUE, Integer.MAX_VALUE}) {
+        for (int k : new int[] {-1, 9, 31, 32, 40, LEAST, GREATEST}) {
             due("won(" + k + ", 0)", none.won(k, 0), BAD);
             due("won(" + k + ", -1)", none.won(k, -1), BAD);
         }
@@ -277,7 +231,7 @@ public final class PromisesTest {
                 due("move(" + k + ", " + far + ")", z.move(k, far), BAD);
             }
         }
-        for (int k : new int[] {-1, 8, 9, 31, 32, 40, Integer.MIN_VALUE, Integer.MAX_VALUE}) {
+        for (int k : new int[] {-1, 8, 9, 31, 32, 40, LEAST, GREATEST}) {
             due("move(" + k + ", 0)", z.move(k, 0), BAD);
         }
     }
@@ -389,7 +343,7 @@ public final class PromisesTest {
     private static void promise14Way() {
         QuantifiedGame x = game(0x52, r(0, 3, 4), r(1, 14, 1), r(2, 0xF1, 2), r(3, 0xC0, 0));
         String first = answers(x);
-        for (int k : new int[] {-1, 3, 4, 32, Integer.MIN_VALUE, Integer.MAX_VALUE}) {
+        for (int k : new int[] {-1, 3, 4, 32, LEAST, GREATEST}) {
             due("way(" + k + ")", x.way(k), false);
             due("same answers after refused way(" + k + ")", answers(x).equals(first), true);
         }
@@ -413,18 +367,6 @@ public final class PromisesTest {
         }
     }
 
-    /** The answers to 33 calls, few enough to be asked thirteen times of one object. */
-    private static String answers(QuantifiedGame x) {
-        StringBuilder all = new StringBuilder();
-        for (int k = 0; k <= 8; k++) {
-            int values = 0xA6 & (1 << k) - 1;
-            all.append(x.won(k, values)).append(x.move(k, values)).append(x.holds(values)).append(' ');
-        }
-        all.append(x.count()).append(' ').append(x.idle()).append(' ').append(x.openings()).append(' ');
-        all.append(x.blame()).append(' ').append(x.decided()).append(' ').append(x.needless());
-        return all.toString();
-    }
-
     public static void main(String[] args) {
         constants();
         for (way = 0; way < 3; way++) {
@@ -443,9 +385,6 @@ public final class PromisesTest {
             promise13Needless();
             promise14Way();
         }
-        System.out.println(wrong == 0 ? "all answers are as due" : wrong + " answers are not as due");
-        if (wrong != 0) {
-            System.exit(1);
-        }
+        end();
     }
 }
